@@ -246,7 +246,6 @@ public final class RandomRunsTest {
                 int bond = pick(0, 4);
                 int asked = pick(0, 2);
                 if (random.nextInt(6) > 0) {
-                    asked = asked == 0 ? 0 : asked;
                     return told("film", made.film(sheet), model.film(sheet), sheet);
                 }
                 return told("tells", made.tells(sheet, asked, bond), model.tells(sheet, asked, bond), sheet, asked, bond);
