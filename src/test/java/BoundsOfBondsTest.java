@@ -353,6 +353,12 @@ public final class BoundsOfBondsTest {
         Books.strip(y, 2, 20, 1);
         Books.strip(y, 99, 20, 50);
         order("2/1 is like 50/25, and 99/50 less", y, 1, 2, 0, 1);
+        DuesOnRungs z = Books.dues(20, 1);
+        Books.strip(z, 99, 20, 60);
+        Books.strip(z, 1, 20, 1);
+        Books.strip(z, 1, 21, 1);
+        Books.strip(z, 1, 20, 2);
+        order("who PAYS 1 is not one who PAYS nothing: 1/2, 1/1, 99/60", z, 1, 3, 1, 0, 2);
         y.due(20, 0);
         order("no RUNGS: nobody PAYS anything, by number", y, 1, 0, 1, 2);
     }

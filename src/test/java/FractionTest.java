@@ -50,6 +50,7 @@ public final class FractionTest {
     public static void main(String[] args) throws Exception {
         FractionTest test = new FractionTest();
         test.edges();
+        test.words();
         for (int k = 0; k < PAIRS; k++) {
             test.pair(test.number(), test.positive(), test.number(), test.positive());
         }
@@ -116,6 +117,53 @@ public final class FractionTest {
         method("multiply", type).invoke(f, f);
         CHECKS.due("a fraction times itself, above", above.getLong(f), 9);
         CHECKS.due("a fraction times itself, below", below.getLong(f), 4);
+    }
+
+    /** What the document's words on FRACTIONS name, one by one. */
+    private void words() throws Exception {
+        long most = Long.MAX_VALUE;
+        long half = 1L << 62;
+        long root = 3037000499L;
+        is("a sum that is just the greatest long", "add", most - 1, 1, 1, 1, false);
+        is("a sum that is no long", "add", most, 1, 1, 1, true);
+        is("a sum that is one above Long.MIN_VALUE", "add", -most + 1, 1, -1, 1, false);
+        is("a sum that is Long.MIN_VALUE", "add", -most, 1, -1, 1, true);
+        is("a sum that is below Long.MIN_VALUE", "add", -most, 1, -2, 1, true);
+        is("a sum of half and half that is Long.MIN_VALUE", "add", -half, 1, -half, 1, true);
+        is("nothing and the greatest long", "add", 0, 1, most, 1, false);
+        is("a product that is just a long", "multiply", root, 1, root, 1, false);
+        is("a product that is no long", "multiply", root + 1, 1, root + 1, 1, true);
+        is("a product that is Long.MIN_VALUE", "multiply", half, 1, -2, 1, true);
+        is("a product that is one above it", "multiply", most, 1, -1, 1, false);
+        is("below the line a product that is just a long", "multiply", 1, root, 1, root, false);
+        is("below the line a product that is no long", "multiply", 1, root + 1, 1, root + 1, true);
+        is("the products come ahead of lowest terms", "multiply", half - 1, 7, 7, half - 1, true);
+        is("in a sum too: below the line", "add", 1, root + 1, 1, root + 1, true);
+        is("in a sum too: above the line", "add", half, 3, -half, 3, true);
+        is("nothing by a great number is in lowest terms ahead", "multiply", 0, most, 1, 2, false);
+        is("nothing times what is great below the line", "multiply", 0, 1, 1, most, false);
+        is("divided by one that is below 0", "divide", 1, root, -root, 1, false);
+        is("divided, below the line no long", "divide", 1, root + 1, -root - 1, 1, true);
+        Object nothing = fraction(0, most);
+        CHECKS.due("nothing: 0", above.getLong(nothing), 0);
+        CHECKS.due("nothing: by 1", below.getLong(nothing), 1);
+        Object turned = fraction(2, 3);
+        method("divide", type).invoke(turned, fraction(-4, 9));
+        CHECKS.due("turned round: above has the sign", above.getLong(turned), -3);
+        CHECKS.due("turned round: below is above 0", below.getLong(turned), 2);
+        Object stale = fraction(1, 3);
+        become.invoke(stale, Long.MIN_VALUE, 1L);
+        for (String name : new String[] {"add", "multiply", "divide"}) {
+            Object f = fraction(1, 3);
+            method(name, type).invoke(f, stale);
+            CHECKS.due(name + " with one that has become GREAT", great.getBoolean(f) ? 1 : 0, 1);
+        }
+    }
+
+    private void is(String what, String name, long a, long b, long c, long d, boolean isGreat) throws Exception {
+        Object f = fraction(a, b);
+        method(name, type).invoke(f, fraction(c, d));
+        CHECKS.due("FRACTIONS: " + what, great.getBoolean(f) ? 1 : 0, isGreat ? 1 : 0);
     }
 
     private static boolean isLong(BigInteger... numbers) {
