@@ -334,7 +334,6 @@ public final class DuesOnRungs {
     }
 
     public int drawn(int seed) {
-        look();
         return (int) shortBySeed(seed);
     }
 
@@ -342,7 +341,6 @@ public final class DuesOnRungs {
         if (!within(m, 1, MOST_SEEDS) || !isPart(part)) {
             return BAD;
         }
-        look();
         int met = 0;
         for (int k = 0; k < m; k++) {
             if (shortBySeed(seed + k) == 0) {
